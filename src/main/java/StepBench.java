@@ -673,7 +673,7 @@ public final class StepBench {
             take(opening);
             skipBlanks();
             boolean more = tape.at(here) != closing;
-            while (more && isFine() && here < tape.length()) {
+            for (int n = 0; n < TEXT_SIZE && more; n++) {
                 if (opening == '{') {
                     readName(box);
                 }
@@ -759,7 +759,7 @@ public final class StepBench {
 
         private void readString() {
             take('"');
-            while (isFine() && here < tape.length() && tape.at(here) != '"') {
+            for (int n = 0; n < TEXT_SIZE && isFine() && tape.at(here) != '"'; n++) {
                 int c = tape.at(here) == '\\' ? readEscape() : readPlain();
                 if (isFine()) {
                     out.putCharacter(c);
@@ -807,7 +807,7 @@ public final class StepBench {
         private int top;
 
         /** Below 0, 0 or above 0, as a at p comes before b at q, is the same, or comes behind it. */
-        int compare(Text a, int p, Text b, int q, int depth) {
+        private int compare(Text a, int p, Text b, int q, int depth) {
             int kind = a.kind(p);
             if (kind != b.kind(q)) {
                 return Integer.compare(kind, b.kind(q));
