@@ -9,6 +9,7 @@ final class Bench {
     static final String LIMIT = "limit";
 
     final StepBench x = new StepBench();
+    private int fed = 0;
 
     /** Brings a text onto the TAPE; a piece of less than 20 bytes comes first, so 4096 fit. */
     Bench tape(String text) {
@@ -26,6 +27,11 @@ final class Bench {
     }
 
     private void feed(byte[] bytes, int i) {
+        fed++;
+        // Behind 512 calls every answer is free: a test that goes there tests nothing.
+        if (fed > 480) {
+            throw new IllegalStateException("one object is fed too often");
+        }
         x.feed(number(bytes, i), number(bytes, i + 4), number(bytes, i + 8), number(bytes, i + 12), number(bytes, i + 16));
     }
 

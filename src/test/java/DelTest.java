@@ -9,6 +9,7 @@ public final class DelTest {
         checkEmptyPath();
         checkManySteps();
         checkManyPaths();
+        checkLong();
         checkRegisters();
         Check.finish();
     }
@@ -169,6 +170,17 @@ public final class DelTest {
         leaves("{\"a\":1}", "[" + Bench.times(100, "[]", ",") + ",[0]]", Bench.LIMIT);
         leaves("[" + Bench.times(101, "7", ",") + "]", "[" + Bench.times(100, "[0]", ",") + "]", "[7]");
         leaves("[1]", "[" + Bench.times(1300, "[]", ",") + "]", Bench.LIMIT);
+    }
+
+    /** Cuts out of a VALUE that has 4096 bytes. */
+    private static void checkLong() {
+        String longest = "[\"" + "x".repeat(4086) + "\",1,2]";
+        leaves(longest, "[[1]]", "[\"" + "x".repeat(4086) + "\",2]");
+        leaves(longest, "[[2]]", "[\"" + "x".repeat(4086) + "\",1]");
+        leaves(longest, "[[0]]", "[1,2]");
+        leaves(longest, "[[{}]]", "[]");
+        leaves(longest, "[[]]", "null");
+        leaves(longest, "[]", longest);
     }
 
     private static void checkRegisters() {

@@ -40,6 +40,9 @@ public final class GetTest {
         leads("[\"],[\",\"\\\",\\\\\",3]", "[2]", "3");
         leads("[" + Bench.times(1500, "1", ",") + ",2]", "[1500]", "2");
         leads("7", "[]", "7");
+        String longest = "\"" + "x".repeat(4094) + "\"";
+        leads(longest, "[]", longest);
+        leads("[\"" + "x".repeat(4092) + "\"]", "[-1]", "\"" + "x".repeat(4092) + "\"");
     }
 
     private static void checkNull() {

@@ -3,6 +3,7 @@ public final class LimitsTest {
     public static void main(String[] args) {
         checkDepth();
         checkPrinted();
+        checkPrintedParts();
         checkOrder();
         checkNothingChanges();
         Check.finish();
@@ -26,7 +27,7 @@ public final class LimitsTest {
         Check.equal("60 from null", Bench.FINE, bench.set(2, 4, 0, 3));
         Check.equal("60 from null", "[".repeat(60) + "7" + "]".repeat(60), bench.text(2));
         Check.equal("an array more in it", Bench.LIMIT, bench.set(2, 4, 1, 3));
-        bench.put(5, "[]").put(6, "{}").put(7, "\"[[[{{{\"");
+        bench.put(5, "[]").put(6, "{}").put(7, "\"[[[{{{\\\"[[\\\\\"");
         Check.equal("one more in it", Bench.LIMIT, bench.set(2, 4, 0, 6));
         Check.equal("a text with such signs", Bench.FINE, bench.set(2, 4, 0, 7));
         Check.equal("60 put into an array", Bench.FINE, bench.set(1, 2, 5, 2));
@@ -38,34 +39,32 @@ public final class LimitsTest {
     }
 
     private static void checkPrinted() {
-        String longest = "\"" + "x".repeat(4091) + "\"";
-        Bench bench = new Bench().put(0, longest).put(1, "[0]");
-        Check.equal("4093 and 2", Bench.FINE, bench.set(2, 3, 1, 0));
-        Check.equal("4095 bytes", "[" + longest + "]", bench.text(2));
-        Check.equal("4093 and 4097", Bench.FINE, bench.set(3, 2, 1, 0));
-        bench.put(0, "\"" + "x".repeat(4092) + "\"");
+        Bench bench = new Bench().put(0, "\"" + "x".repeat(4092) + "\"").put(1, "[0]").put(3, "[1]").put(5, "9");
         Check.equal("4096 bytes", Bench.FINE, bench.set(2, 4, 1, 0));
-        Check.equal("4096 bytes", "4096", bench.print(2));
-        bench.put(0, "\"" + "x".repeat(4093) + "\"").put(5, "1");
-        Check.equal("4097 bytes", Bench.LIMIT, bench.set(5, 4, 1, 0));
-        Check.equal("nothing is changed", "1", bench.text(5));
-        bench.put(6, "[1]").put(5, "9");
-        Check.equal("behind 4096 bytes", Bench.LIMIT, bench.set(7, 2, 6, 5));
+        Check.equal("4096 bytes", "[\"" + "x".repeat(4092) + "\"]", bench.text(2));
+        Check.equal("behind 4096 bytes", Bench.LIMIT, bench.set(7, 2, 3, 5));
         Check.equal("in place of 4094 of them", Bench.FINE, bench.set(7, 2, 1, 5));
         Check.equal("in place of 4094 of them", "[9]", bench.text(7));
-        bench.put(6, "[\"" + "y".repeat(3000) + "\"]");
+        bench = new Bench().put(0, "\"" + "x".repeat(4093) + "\"").put(1, "[0]").put(5, "1");
+        Check.equal("4097 bytes", Bench.LIMIT, bench.set(5, 4, 1, 0));
+        Check.equal("nothing is changed", "1", bench.text(5));
+        bench = new Bench().put(6, "[\"" + "y".repeat(3000) + "\"]").put(5, "\"" + "z".repeat(1100) + "\"");
         Check.equal("a long name", Bench.FINE, bench.set(7, 4, 6, 4));
-        bench.put(6, "[\"" + "y".repeat(3000) + "\",\"a\"]").put(5, "\"" + "z".repeat(1100) + "\"");
-        Check.equal("a long name and more", Bench.LIMIT, bench.set(7, 4, 6, 5));
+        Check.equal("a long name and a long string", Bench.LIMIT, bench.set(7, 4, 6, 5));
         bench.put(6, "[" + Bench.times(5, "999", ",") + "]");
-        Check.equal("nulls without end", Bench.LIMIT, bench.set(7, 4, 6, 5));
+        Check.equal("nulls without end", Bench.LIMIT, bench.set(7, 4, 6, 4));
+    }
+
+    private static void checkPrintedParts() {
         // Escapes count with all their bytes.
-        bench.put(0, "\"" + "\\u0001".repeat(680) + "\"").put(6, "[7]");
-        Check.equal("4082 and 7 nulls", Bench.LIMIT, bench.set(7, 4, 6, 0));
+        Bench bench = new Bench().put(0, "\"" + "\\u0001".repeat(680) + "\"").put(6, "[3]");
+        Check.equal("4082 and 3 nulls", Bench.LIMIT, bench.set(7, 4, 6, 0));
         bench.put(6, "[2]");
         Check.equal("4082 and 2 nulls", Bench.FINE, bench.set(7, 4, 6, 0));
-        bench.put(6, "[{\"start\":0,\"end\":0}]");
-        Check.equal("parts that grow too long", Bench.LIMIT, bench.set(7, 7, 6, 7));
+        Check.equal("4094 bytes", "4094", bench.print(7));
+        bench.put(6, "[{\"end\":0}]");
+        Check.equal("a part that grows too long", Bench.LIMIT, bench.set(7, 7, 6, 7));
+        Check.equal("nothing is changed", "4094", bench.print(7));
     }
 
     private static void checkOrder() {
@@ -78,11 +77,11 @@ public final class LimitsTest {
         bench.put(1, "[" + Bench.times(700, "[]", ",") + "]");
         Check.equal("a register ahead of a limit, by del", Bench.ARGUMENT, bench.del(8, 0, 1));
         Check.equal("a limit, by del", Bench.LIMIT, bench.del(7, 0, 1));
-        bench.put(1, "[" + Bench.times(2000, "0", ",") + "]");
+        bench = new Bench().put(1, "[" + Bench.times(2000, "0", ",") + "]");
         Check.equal("a register ahead of a limit, by all", Bench.ARGUMENT, bench.all(8, 1));
         Check.equal("a limit, by all", Bench.LIMIT, bench.all(7, 1));
-        bench.put(1, "[{},\"a\",{\"start\":0}]").put(2, "[9]");
-        Check.equal("a name behind null's part, then a limit", Bench.TYPE, bench.set(7, 4, 1, 2));
+        bench.put(1, "[{},\"a\",1000]").put(2, "[9]");
+        Check.equal("a name behind null's part ahead of a limit", Bench.TYPE, bench.set(7, 4, 1, 2));
     }
 
     private static void checkNothingChanges() {

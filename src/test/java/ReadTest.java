@@ -212,6 +212,7 @@ public final class ReadTest {
         String text = "\"" + "z".repeat(4094) + "\"";
         Check.equal("a string of 4096 bytes", "4096", bench.tape(text).read(0));
         Check.equal("all of it", text, bench.text(0));
+        bench = new Bench();
         Check.equal("a string without an end", "broken at 4096", bench.tape(text.replace('\"', 'z').replaceFirst("z", "\"")).read(0));
         StringBuilder names = new StringBuilder("{");
         for (int n = 0; n < 400; n++) {
