@@ -13,17 +13,29 @@ public final class ModelTest {
     private static final Random RANDOM = new Random(20261115);
 
     public static void main(String[] args) {
-        for (int round = 0; round < 40000; round++) {
+        for (int n = 0; n < 15000; n++) {
             Bench bench = new Bench();
-            Object a = value(4);
+            Object a = shortValue();
             bench.put(0, spaced(a));
-            checkGet(bench, a);
-            checkSet(bench, a);
-            checkDel(bench, a);
-            checkOthers(bench, a);
+            // What one call leaves behind must not be seen by the next.
+            for (int round = 0; round < 3; round++) {
+                checkGet(bench, a);
+                checkSet(bench, a);
+                checkDel(bench, a);
+                checkOthers(bench, a);
+            }
             Check.equal("a stays", Model.printed(a), bench.text(0));
         }
         Check.finish();
+    }
+
+    /** A VALUE short enough for all calls with it to be fewer than 512. */
+    private static Object shortValue() {
+        Object value = value(4);
+        while (Model.printed(value).length() > 300) {
+            value = value(4);
+        }
+        return value;
     }
 
     private static void checkGet(Bench bench, Object a) {
@@ -80,7 +92,7 @@ public final class ModelTest {
         }
         String outcome = bench.all(2, 0);
         Check.equal("all of " + Model.printed(a), due, outcome.equals(Bench.FINE) ? bench.text(2) : outcome);
-        Object other = RANDOM.nextBoolean() ? turned(a) : value(4);
+        Object other = RANDOM.nextBoolean() ? turned(a) : shortValue();
         bench.put(3, spaced(other));
         Check.equal("same: " + Model.printed(a) + " and " + Model.printed(other), String.valueOf(Model.compare(a, other) == 0), bench.same(0, 3));
     }

@@ -10,6 +10,7 @@ public final class SameTest {
         }
         checkAlike();
         checkDeep();
+        checkOften();
         checkRegisters();
         Check.finish();
     }
@@ -40,6 +41,7 @@ public final class SameTest {
         String turned = "[{\"a\":".repeat(20);
         alike(deep + "5" + "}]".repeat(20), turned + "5" + ",\"b\":1}]".repeat(20), true);
         alike(deep + "5" + "}]".repeat(20), turned + "6" + ",\"b\":1}]".repeat(20), false);
+        checkDeepest();
         StringBuilder up = new StringBuilder();
         StringBuilder down = new StringBuilder();
         for (int n = 0; n < 450; n++) {
@@ -49,6 +51,30 @@ public final class SameTest {
         alike("{" + up + "}", "{" + down + "}", true);
         alike("{" + up + "}", "{" + down.toString().replace("\"7\":0", "\"7\":1") + "}", false);
         alike("{" + up + "}", "{" + down.toString().replace("\"7\":0", "\"x\":0") + "}", false);
+    }
+
+    /** 60 within one another, built by set, and only what is innermost differs. */
+    private static void checkDeepest() {
+        Bench bench = new Bench().put(0, "[" + Bench.times(30, "0,\"a\"", ",") + "]").put(1, "5").put(2, "6");
+        bench.x.set(3, 7, 0, 1);
+        bench.x.set(4, 7, 0, 1);
+        bench.x.set(5, 7, 0, 2);
+        Check.equal("60 and 60", "true", bench.same(3, 4));
+        Check.equal("60 and another 60", "false", bench.same(3, 5));
+    }
+
+    /** As often as calls are let, with many names each. */
+    private static void checkOften() {
+        StringBuilder names = new StringBuilder();
+        for (int n = 0; n < 100; n++) {
+            names.append(n == 0 ? "" : ",").append("\"").append(n).append("\":{\"a\":").append(n).append("}");
+        }
+        Bench bench = new Bench().put(0, "{" + names + "}").put(1, "{" + names + "}");
+        bench.put(2, "{" + names.toString().replace(":99}", ":100}") + "}");
+        for (int n = 0; n < 60; n++) {
+            Check.equal("time " + n, "true", bench.same(0, 1));
+            Check.equal("time " + n, "false", bench.same(0, 2));
+        }
     }
 
     private static void checkRegisters() {
