@@ -1299,7 +1299,7 @@ public final class StepBench {
         }
 
         private void putNulls(int n) {
-            for (int k = 0; k < n; k++) {
+            for (int k = 0; k < n && !out.isOver(); k++) {
                 out.putText("null,");
             }
         }
@@ -1446,7 +1446,6 @@ public final class StepBench {
                 return;
             }
             int item = text.firstItem(p);
-            // What does not fit any more is not gone through.
             for (int k = 0; k < TEXT_SIZE && item != NONE && !out.isOver(); k++) {
                 names[depth] = kind == OBJECT ? item : NONE;
                 places[depth] = k;

@@ -54,12 +54,10 @@ public final class RoomTest {
 
     private static void checkNothingMade(Bench bench) {
         if (ManagementFactory.getThreadMXBean() instanceof com.sun.management.ThreadMXBean threads) {
-            long self = Thread.currentThread().getId();
             runAll(bench, 50);
-            long before = threads.getThreadAllocatedBytes(self);
-            long beforeNothing = threads.getThreadAllocatedBytes(self) - before;
+            long before = threads.getCurrentThreadAllocatedBytes();
             runAll(bench, 200);
-            long made = threads.getThreadAllocatedBytes(self) - before - 2 * beforeNothing;
+            long made = threads.getCurrentThreadAllocatedBytes() - before;
             Check.equal("2600 calls make no more than " + made + " bytes", true, made < 2600);
         }
     }
