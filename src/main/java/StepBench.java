@@ -1183,8 +1183,8 @@ public final class StepBench {
             begin(a, draft);
             int q = path.firstItem(0);
             for (int n = 0; n < steps; n++) {
-                if (!writing && spot.isNull()) {
-                    replaceValue();
+                if (!writing) {
+                    replaceNull(path, q);
                 }
                 int why = writing ? growNull(path, q) : goOn(path, q);
                 if (why != FINE) {
@@ -1214,6 +1214,19 @@ public final class StepBench {
             writing = false;
             behindPart = false;
             nameBehindPart = false;
+        }
+
+        /**
+         * Null is replaced by what the steps make of it. A name behind a part can't be, but what is
+         * wrong behind it is told before: so an ARRAY's part is left there as if it were null's, and
+         * the name is told at the end of the PATH.
+         */
+        private void replaceNull(Text path, int q) {
+            boolean nameOfPart = spot.isPart() && path.kind(q) == STRING;
+            if (nameOfPart || spot.isNull()) {
+                behindPart = nameOfPart;
+                replaceValue();
+            }
         }
 
         /** What is there goes; what comes instead of it is written from here on. */
@@ -1263,7 +1276,6 @@ public final class StepBench {
         private int growNull(Text path, int q) {
             switch (path.kind(q)) {
                 case STRING:
-                    // Null's part is null still: that it is no OBJECT's is only seen on the way back.
                     nameBehindPart = nameBehindPart || behindPart;
                     openWith('{', '}');
                     putName(path, q);

@@ -115,7 +115,9 @@ final class Model {
         if (step instanceof Map<?, ?> bounds && (a == null || a instanceof List)) {
             List<Object> elements = a == null ? new ArrayList<>() : new ArrayList<>((List<?>) a);
             int[] part = part(bounds, elements.size());
-            Object old = a == null ? null : new ArrayList<>(elements.subList(part[0], part[1]));
+            boolean nameBehind = !rest.isEmpty() && rest.get(0) instanceof String;
+            // What is behind such a name is told first, so it is looked at as from null.
+            Object old = a == null || nameBehind ? null : new ArrayList<>(elements.subList(part[0], part[1]));
             List<?> made = list(put(old, rest, v));
             elements.subList(part[0], part[1]).clear();
             elements.addAll(part[0], made);

@@ -112,11 +112,23 @@ public final class SetTest {
         makes("null", "[{\"start\":true},-1]", "1", Bench.TYPE);
         makes("null", "[1000,1000,true]", "1", Bench.TYPE);
         makes("null", "[1000,1000,-1]", "1", Bench.RANGE);
-        // Told behind what is behind it: a name behind null's part.
+        // Told behind what is behind it: a name behind a part.
         makes("null", "[{},\"a\",-1]", "1", Bench.RANGE);
         makes("null", "[{},\"a\",1001]", "1", Bench.RANGE);
         makes("null", "[{},\"a\",true]", "1", Bench.TYPE);
         makes("null", "[{},\"a\",1000]", "1", Bench.TYPE);
+        for (String a : new String[] {"[1]", "[]", "[{\"a\":[1]}]"}) {
+            makes(a, "[{},\"a\",-1]", "1", Bench.RANGE);
+            makes(a, "[{\"start\":5},\"a\",1001]", "1", Bench.RANGE);
+            makes(a, "[{},{},\"a\",\"b\",-1]", "[]", Bench.RANGE);
+            makes(a, "[{},\"a\",0,-1,true]", "[]", Bench.RANGE);
+            makes(a, "[{},\"a\",0,true,-1]", "[]", Bench.TYPE);
+            makes(a, "[{},\"a\",{\"end\":true},-1]", "[]", Bench.TYPE);
+            makes(a, "[{},\"a\",1000]", "[]", Bench.TYPE);
+            makes(a, "[{},\"a\"]", "[]", Bench.TYPE);
+            makes(a, "[{\"start\":true},\"a\",-1]", "[]", Bench.TYPE);
+        }
+        makes("\"abc\"", "[{},\"a\",-1]", "1", Bench.TYPE);
         makes("[{}]", "[{\"start\":5},3,\"b\",{},\"a\",-1]", "1", Bench.RANGE);
         // A part that must become what is no ARRAY is told last, too.
         makes("null", "[{},-1]", "1", Bench.RANGE);
