@@ -9,6 +9,7 @@ public final class SameTest {
             }
         }
         checkAlike();
+        checkCharacters();
         checkDeep();
         checkOften();
         checkRegisters();
@@ -34,6 +35,19 @@ public final class SameTest {
         alike("1", "\"1\"", false);
         alike("[]", "{}", false);
         alike("{\"\\n\":1,\"A\":2}", "{\"A\":2,\"\\u000A\":1}", true);
+    }
+
+    /** Of the 128 characters no two are the same, in STRINGS and in names. */
+    private static void checkCharacters() {
+        for (int c = 0; c < 128; c++) {
+            for (int d = 0; d < 128; d++) {
+                String one = Model.printed(String.valueOf((char) c));
+                String other = String.format("\"\\u%04X\"", d);
+                Bench bench = new Bench().put(0, one).put(1, other).put(2, "{" + one + ":1}").put(3, "{" + other + ":1}");
+                Check.equal(one + " and " + other, String.valueOf(c == d), bench.same(0, 1));
+                Check.equal(one + " and " + other + " as names", String.valueOf(c == d), bench.same(2, 3));
+            }
+        }
     }
 
     private static void checkDeep() {
