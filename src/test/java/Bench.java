@@ -74,11 +74,11 @@ final class Bench {
         try {
             return String.valueOf(x.read(r));
         } catch (IllegalArgumentException e) {
-            return ARGUMENT;
+            return thrown(e, IllegalArgumentException.class, ARGUMENT);
         } catch (UnsupportedOperationException e) {
             return "broken at " + x.count(2);
         } catch (IndexOutOfBoundsException e) {
-            return LIMIT;
+            return thrown(e, IndexOutOfBoundsException.class, LIMIT);
         }
     }
 
@@ -87,11 +87,11 @@ final class Bench {
             x.get(to, a, p);
             return FINE;
         } catch (IllegalArgumentException e) {
-            return ARGUMENT;
+            return thrown(e, IllegalArgumentException.class, ARGUMENT);
         } catch (ArithmeticException e) {
             return reason();
         } catch (IndexOutOfBoundsException e) {
-            return LIMIT;
+            return thrown(e, IndexOutOfBoundsException.class, LIMIT);
         }
     }
 
@@ -100,11 +100,11 @@ final class Bench {
             x.set(to, a, p, v);
             return FINE;
         } catch (IllegalArgumentException e) {
-            return ARGUMENT;
+            return thrown(e, IllegalArgumentException.class, ARGUMENT);
         } catch (ArithmeticException e) {
             return reason();
         } catch (IndexOutOfBoundsException e) {
-            return LIMIT;
+            return thrown(e, IndexOutOfBoundsException.class, LIMIT);
         }
     }
 
@@ -113,11 +113,11 @@ final class Bench {
             x.del(to, a, ps);
             return FINE;
         } catch (IllegalArgumentException e) {
-            return ARGUMENT;
+            return thrown(e, IllegalArgumentException.class, ARGUMENT);
         } catch (ArithmeticException e) {
             return reason();
         } catch (IndexOutOfBoundsException e) {
-            return LIMIT;
+            return thrown(e, IndexOutOfBoundsException.class, LIMIT);
         }
     }
 
@@ -126,9 +126,9 @@ final class Bench {
             x.all(to, a);
             return FINE;
         } catch (IllegalArgumentException e) {
-            return ARGUMENT;
+            return thrown(e, IllegalArgumentException.class, ARGUMENT);
         } catch (IndexOutOfBoundsException e) {
-            return LIMIT;
+            return thrown(e, IndexOutOfBoundsException.class, LIMIT);
         }
     }
 
@@ -136,7 +136,7 @@ final class Bench {
         try {
             return String.valueOf(x.same(a, b));
         } catch (IllegalArgumentException e) {
-            return ARGUMENT;
+            return thrown(e, IllegalArgumentException.class, ARGUMENT);
         }
     }
 
@@ -144,7 +144,7 @@ final class Bench {
         try {
             return String.valueOf(x.print(r));
         } catch (IllegalArgumentException e) {
-            return ARGUMENT;
+            return thrown(e, IllegalArgumentException.class, ARGUMENT);
         }
     }
 
@@ -152,7 +152,7 @@ final class Bench {
         try {
             return String.valueOf(x.end(n));
         } catch (IllegalArgumentException e) {
-            return ARGUMENT;
+            return thrown(e, IllegalArgumentException.class, ARGUMENT);
         }
     }
 
@@ -160,7 +160,7 @@ final class Bench {
         try {
             return String.valueOf(x.feed(a, b, c, d, e));
         } catch (IndexOutOfBoundsException exception) {
-            return LIMIT;
+            return thrown(exception, IndexOutOfBoundsException.class, LIMIT);
         }
     }
 
@@ -168,7 +168,7 @@ final class Bench {
         try {
             return String.valueOf(x.word(i));
         } catch (IndexOutOfBoundsException e) {
-            return LIMIT;
+            return thrown(e, IndexOutOfBoundsException.class, LIMIT);
         }
     }
 
@@ -176,8 +176,13 @@ final class Bench {
         try {
             return String.valueOf(x.count(what));
         } catch (IllegalArgumentException e) {
-            return ARGUMENT;
+            return thrown(e, IllegalArgumentException.class, ARGUMENT);
         }
+    }
+
+    /** A row that is left by an index throws a class of its own, which must not pass for a LIMIT. */
+    private static String thrown(RuntimeException e, Class<?> due, String outcome) {
+        return e.getClass() == due ? outcome : "threw " + e;
     }
 
     private String reason() {
